@@ -54,7 +54,7 @@ public final class FreeAlderman {
     private final City draft;
     private final CityText cityText;
     private final LawBook laws;
-    private final DayBook days;
+    private final DayBook dayBook;
     private final Stand now;
     private final Stand trial;
     private final Acts acts;
@@ -73,7 +73,7 @@ public final class FreeAlderman {
         draft = new City();
         cityText = new CityText(tape, draft);
         laws = new LawBook(tape);
-        days = new DayBook(tape);
+        dayBook = new DayBook(tape);
         now = new Stand(city, laws);
         trial = new Stand(city, laws);
         acts = new Acts();
@@ -113,7 +113,7 @@ public final class FreeAlderman {
         switch (sort) {
             case 0: return cityText.findFault();
             case 1: return laws.findFault();
-            case 2: return days.findFault();
+            case 2: return dayBook.findFault();
             default: return -2;
         }
     }
@@ -122,7 +122,7 @@ public final class FreeAlderman {
         if (fault(sort) != NONE) {
             return NONE;
         }
-        int answer = sort == 0 ? settle() : sort == 1 ? laws.keepDraft() : days.keepDraft();
+        int answer = sort == 0 ? settle() : sort == 1 ? laws.keepDraft() : dayBook.keepDraft();
         if (answer != NONE) {
             tape.length = 0;
         }
@@ -210,11 +210,7 @@ public final class FreeAlderman {
             return NONE;
         }
         acts.keep(now);
-        return carryOut(what, place);
-    }
-
-    // The LOG tells a DAY as it ends, so it is written ahead of the change.
-    private int carryOut(int what, int place) {
+        // The LOG tells a DAY as it ends, so it is written ahead of the change.
         if (what == DAY) {
             diary.write(now);
         }
@@ -231,9 +227,7 @@ public final class FreeAlderman {
             acts.keep(now);
             x = drawnBehind(x);
             if (draw(x, 10) < gout) {
-                if (now.canDo(DAY, NONE)) {
-                    carryOut(DAY, NONE);
-                }
+                letDayGoBy();
             } else {
                 x = drawnBehind(x);
                 walks += walkOrRead(draw(x, city.places));
@@ -242,13 +236,20 @@ public final class FreeAlderman {
         return walks;
     }
 
+    private void letDayGoBy() {
+        if (now.canDo(DAY, NONE)) {
+            diary.write(now);
+            now.carryOut(DAY, NONE);
+        }
+    }
+
     private int walkOrRead(int place) {
         if (now.canDo(WALK, place)) {
-            carryOut(WALK, place);
+            now.carryOut(WALK, place);
             return 1;
         }
         if (now.canDo(READ, NONE)) {
-            carryOut(READ, NONE);
+            now.carryOut(READ, NONE);
         }
         return 0;
     }
@@ -272,30 +273,31 @@ public final class FreeAlderman {
     // ---- DAYS told ----
 
     public int step(int days, int i, int what) {
-        if (!this.days.hasStep(days, i) || what < 0 || what > 1) {
+        if (i < 0 || i >= dayBook.sizeOf(days) || what < 0 || what > 1) {
             return HIDDEN;
         }
-        return what == 0 ? this.days.whatOf(days, i) : this.days.digitOf(days, i);
+        return what == 0 ? dayBook.whatOf(days, i) : dayBook.digitOf(days, i);
     }
 
     public int run(int days, int what) {
-        if (!city.isThere() || !this.days.isKept(days) || what < 0 || what > 1) {
+        if (!city.isThere() || !dayBook.isKept(days) || what < 0 || what > 1) {
             return HIDDEN;
         }
-        trial.copyFrom(now);
+        trial.loadFrom(now.cells, 0);
+        int size = dayBook.sizeOf(days);
         int done = 0;
-        while (this.days.hasStep(days, done) && tryStep(days, done)) {
+        while (done < size && tryStep(days, done)) {
             done++;
         }
         if (what == 1) {
             return trial.seenInAll() - now.seenInAll();
         }
-        return this.days.hasStep(days, done) ? done : NONE;
+        return done < size ? done : NONE;
     }
 
     private boolean tryStep(int told, int i) {
-        int what = days.whatOf(told, i);
-        int digit = days.digitOf(told, i);
+        int what = dayBook.whatOf(told, i);
+        int digit = dayBook.digitOf(told, i);
         if (!trial.canDo(what, digit)) {
             return false;
         }
@@ -304,12 +306,12 @@ public final class FreeAlderman {
     }
 
     public int perform(int days) {
-        if (!city.isThere() || !this.days.isKept(days)) {
+        if (!city.isThere() || !dayBook.isKept(days)) {
             return NONE;
         }
+        int size = dayBook.sizeOf(days);
         int done = 0;
-        while (this.days.hasStep(days, done)
-                && doAsAct(this.days.whatOf(days, done), this.days.digitOf(days, done)) != NONE) {
+        while (done < size && doAsAct(dayBook.whatOf(days, done), dayBook.digitOf(days, done)) != NONE) {
             done++;
         }
         return done;
@@ -532,7 +534,7 @@ public final class FreeAlderman {
         if (!city.isThere()) {
             return NONE;
         }
-        now.copyTo(imageCells);
+        now.saveTo(imageCells, 0);
         imageDiary.copyFrom(diary);
         hasImage = true;
         return now.daysGone();
@@ -542,7 +544,7 @@ public final class FreeAlderman {
         if (!hasImage) {
             return NONE;
         }
-        now.copyFrom(imageCells);
+        now.loadFrom(imageCells, 0);
         diary.copyFrom(imageDiary);
         acts.forget();
         return now.daysGone();
@@ -552,7 +554,7 @@ public final class FreeAlderman {
         switch (what) {
             case 0: return city.places;
             case 1: return laws.kept;
-            case 2: return days.kept;
+            case 2: return dayBook.kept;
             case 3: return tape.length;
             case 4: return laws.holding;
             case 5: return now.daysGone();
@@ -630,8 +632,8 @@ public final class FreeAlderman {
             return true;
         }
 
-        boolean isAtDigit() {
-            return at < length && bytes[at] >= '0' && bytes[at] <= '9';
+        static boolean isDigit(int sign) {
+            return sign >= '0' && sign <= '9';
         }
 
         // What is wrong is always told by where the reading stops.
@@ -639,7 +641,7 @@ public final class FreeAlderman {
             sign();
             int digits = 0;
             value = 0;
-            while (isAtDigit()) {
+            while (at < length && isDigit(bytes[at])) {
                 if (digits == mostDigits) {
                     return false;
                 }
@@ -664,12 +666,25 @@ public final class FreeAlderman {
         final int[][] spots = new int[MOST_PLACES][5];
         int places;
 
+        // STEPS between all, HOME first: the searches ask for them far too often to measure anew.
+        private final int[][] ways = new int[MOST_PLACES + 1][MOST_PLACES + 1];
+
         void copyFrom(City other) {
             System.arraycopy(other.rules, 0, rules, 0, rules.length);
             for (int place = 0; place < MOST_PLACES; place++) {
                 System.arraycopy(other.spots[place], 0, spots[place], 0, spots[place].length);
             }
             places = other.places;
+            measure();
+        }
+
+        void measure() {
+            for (int one = NONE; one < places; one++) {
+                for (int other = NONE; other < places; other++) {
+                    ways[one + 1][other + 1] = Math.abs(toldOf(one, SPOT_X) - toldOf(other, SPOT_X))
+                            + Math.abs(toldOf(one, SPOT_Y) - toldOf(other, SPOT_Y));
+                }
+            }
         }
 
         boolean isThere() {
@@ -690,8 +705,7 @@ public final class FreeAlderman {
         }
 
         int apart(int one, int other) {
-            return Math.abs(toldOf(one, SPOT_X) - toldOf(other, SPOT_X))
-                    + Math.abs(toldOf(one, SPOT_Y) - toldOf(other, SPOT_Y));
+            return one >= NONE && one < places && other >= NONE && other < places ? ways[one + 1][other + 1] : 0;
         }
 
         boolean hasTwoInOne() {
@@ -774,6 +788,7 @@ public final class FreeAlderman {
                     return tape.at;
                 }
                 if (tape.sign() == Tape.END) {
+                    draft.measure();
                     return draft.places < 2 || draft.hasTwoInOne() ? tape.length : NONE;
                 }
                 if (!tape.take(';')) {
@@ -835,7 +850,6 @@ public final class FreeAlderman {
         private final int[][] codes = new int[MOST_TEXTS + 1][MOST_BYTES];
         private final int[] sizes = new int[MOST_TEXTS + 1];
         private final int[] stack = new int[MOST_STACK];
-        private int top;
 
         LawBook(Tape tape) {
             this.tape = tape;
@@ -1022,55 +1036,30 @@ public final class FreeAlderman {
                 return 0;
             }
             int[] code = codes[holding];
-            top = 0;
+            int top = 0;
+            boolean skips = false;
             for (int i = 0; i < sizes[holding]; i++) {
-                if (code[i] == -';') {
-                    return pop();
-                }
-                if (code[i] != -'?') {
-                    work(code[i]);
-                } else if (pop() == 0) {
-                    i = endOfClause(code, i);
+                int next = code[i];
+                if (skips) {
+                    skips = next != -';';
+                } else if (next >= -letters.length && top < MOST_STACK) {
+                    stack[top] = next >= 0 ? next : letters[-1 - next];
+                    top++;
+                } else if (top < 1) {
+                    return 0;
+                } else if (next == -';') {
+                    return stack[top - 1];
+                } else if (next == -'?') {
+                    top--;
+                    skips = stack[top] == 0;
+                } else if (next == -'!') {
+                    stack[top - 1] = 1 - stack[top - 1];
+                } else if (top > 1) {
+                    top--;
+                    stack[top - 1] = joined(-next, stack[top - 1], stack[top]);
                 }
             }
             return 0;
-        }
-
-        private int endOfClause(int[] code, int from) {
-            for (int i = from; i < sizes[holding]; i++) {
-                if (code[i] == -';') {
-                    return i;
-                }
-            }
-            return sizes[holding];
-        }
-
-        private void work(int code) {
-            if (code >= 0) {
-                push(code);
-            } else if (code >= -letters.length) {
-                push(letters[-1 - code]);
-            } else if (code == -'!') {
-                push(1 - pop());
-            } else {
-                int right = pop();
-                push(joined(-code, pop(), right));
-            }
-        }
-
-        private void push(int number) {
-            if (top < MOST_STACK) {
-                stack[top] = number;
-                top++;
-            }
-        }
-
-        private int pop() {
-            if (top <= 0) {
-                return 0;
-            }
-            top--;
-            return stack[top];
         }
 
         private static int joined(int sign, int left, int right) {
@@ -1117,16 +1106,16 @@ public final class FreeAlderman {
             return told >= 0 && told < kept;
         }
 
-        boolean hasStep(int told, int i) {
-            return isKept(told) && i >= 0 && i < sizes[told];
+        int sizeOf(int told) {
+            return isKept(told) ? sizes[told] : 0;
         }
 
         int whatOf(int told, int i) {
-            return hasStep(told, i) ? whats[told][i] : NONE;
+            return i >= 0 && i < sizeOf(told) ? whats[told][i] : NONE;
         }
 
         int digitOf(int told, int i) {
-            return hasStep(told, i) ? digits[told][i] : NONE;
+            return i >= 0 && i < sizeOf(told) ? digits[told][i] : NONE;
         }
 
         int findFault() {
@@ -1158,7 +1147,7 @@ public final class FreeAlderman {
                 return true;
             }
             int sign = tape.sign();
-            if (!tape.isAtDigit()) {
+            if (!Tape.isDigit(sign)) {
                 return false;
             }
             digits[kept][i] = sign - '0';
@@ -1185,7 +1174,7 @@ public final class FreeAlderman {
         private final City city;
         private final LawBook laws;
         // One row holds everything, so that keeping and taking back is one copy.
-        private final int[] cells = new int[CELLS];
+        final int[] cells = new int[CELLS];
 
         Stand(City city, LawBook laws) {
             this.city = city;
@@ -1203,16 +1192,16 @@ public final class FreeAlderman {
             }
         }
 
-        void copyTo(int[] row) {
-            System.arraycopy(cells, 0, row, 0, CELLS);
+        void saveTo(int[] row, int from) {
+            if (from >= 0 && from + CELLS <= row.length) {
+                System.arraycopy(cells, 0, row, from, CELLS);
+            }
         }
 
-        void copyFrom(int[] row) {
-            System.arraycopy(row, 0, cells, 0, CELLS);
-        }
-
-        void copyFrom(Stand other) {
-            copyFrom(other.cells);
+        void loadFrom(int[] row, int from) {
+            if (from >= 0 && from + CELLS <= row.length) {
+                System.arraycopy(row, from, cells, 0, CELLS);
+            }
         }
 
         int place() {
@@ -1286,9 +1275,11 @@ public final class FreeAlderman {
         }
 
         boolean couldWalk(int from, int hour, int tired, int place) {
+            if (!city.isPlace(place) || place == from) {
+                return false;
+            }
             int way = city.apart(from, place);
-            return city.isPlace(place) && place != from
-                    && tired + way <= city.rules[BREATH] && hour + way + 1 <= city.rules[HOURS];
+            return tired + way <= city.rules[BREATH] && hour + way + 1 <= city.rules[HOURS];
         }
 
         static int troubleWithoutLaw(int visits, int consideration) {
@@ -1338,8 +1329,8 @@ public final class FreeAlderman {
             if (!city.isPlace(place)) {
                 return NONE;
             }
-            int trouble = troubleNow(place, 0);
             int way = city.apart(cells[AT], place);
+            int trouble = troubleThen(place, cells[HOUR] + way, cells[TIRED] + way, 0);
             cells[AT] = place;
             cells[HOUR] += way + 1;
             cells[TIRED] += way;
@@ -1389,7 +1380,7 @@ public final class FreeAlderman {
 
         int number;
 
-        private final int[][] rows = new int[MOST][Stand.CELLS];
+        private final int[] rows = new int[MOST * Stand.CELLS];
         private int next;
 
         void forget() {
@@ -1397,7 +1388,7 @@ public final class FreeAlderman {
         }
 
         void keep(Stand stand) {
-            stand.copyTo(rows[next]);
+            stand.saveTo(rows, next * Stand.CELLS);
             next = next + 1 < MOST ? next + 1 : 0;
             number = Math.min(MOST, number + 1);
         }
@@ -1407,7 +1398,7 @@ public final class FreeAlderman {
                 return NONE;
             }
             next = next > 0 ? next - 1 : MOST - 1;
-            stand.copyFrom(rows[next]);
+            stand.loadFrom(rows, next * Stand.CELLS);
             number--;
             return number;
         }
@@ -1423,30 +1414,32 @@ public final class FreeAlderman {
         private static final int SHOWN = 60;
         private static final int WHATS = 3;
 
-        private final int[][] rows = new int[ROWS][WHATS];
+        private final int[] cells = new int[ROWS * WHATS];
+
+        private static int rowOf(int day) {
+            return Math.floorMod(day, ROWS) * WHATS;
+        }
 
         static int lengthOn(int day) {
             return Math.min(SHOWN, day);
         }
 
         void copyFrom(Diary other) {
-            for (int i = 0; i < ROWS; i++) {
-                System.arraycopy(other.rows[i], 0, rows[i], 0, WHATS);
-            }
+            System.arraycopy(other.cells, 0, cells, 0, cells.length);
         }
 
         void write(Stand stand) {
-            int[] row = rows[Math.floorMod(stand.daysGone(), ROWS)];
-            row[0] = stand.hour();
-            row[1] = stand.seenToday();
-            row[2] = stand.tooMuch();
+            int row = rowOf(stand.daysGone());
+            cells[row] = stand.hour();
+            cells[row + 1] = stand.seenToday();
+            cells[row + 2] = stand.tooMuch();
         }
 
         int read(int day, int i, int what) {
             if (i < 0 || i >= lengthOn(day) || what < 0 || what >= WHATS) {
                 return NONE;
             }
-            return rows[Math.floorMod(day - 1 - i, ROWS)][what];
+            return cells[rowOf(day - 1 - i) + what];
         }
     }
 
@@ -1598,7 +1591,7 @@ public final class FreeAlderman {
             for (int place = 0; place < city.places; place++) {
                 if (!isIn(used, place) && stand.couldWalk(from, hour, tired, place)) {
                     int way = city.apart(from, place);
-                    if (isBorneBy(place, hour + way, tired + way)) {
+                    if (isBorneBy(place, stand.troubleThen(place, hour + way, tired + way, 0))) {
                         seeOn(place, hour + way + 1, tired + way, used | 1 << place,
                                 row * 10 + place, gain + newAt(place));
                     }
@@ -1625,9 +1618,8 @@ public final class FreeAlderman {
         }
 
         // TROUBLES never get less within a row, so what is too much on the way is so at its end.
-        private boolean isBorneBy(int place, int hour, int tired) {
-            return stand.isTooMuch(place, 0)
-                    || !stand.isTooMuch(place, stand.troubleThen(place, hour, tired, 0));
+        private boolean isBorneBy(int place, int trouble) {
+            return stand.isTooMuch(place, 0) || !stand.isTooMuch(place, trouble);
         }
 
         void troubleLeast(int set) {
