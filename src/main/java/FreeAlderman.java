@@ -1056,17 +1056,17 @@ public final class FreeAlderman {
                     stack[top - 1] = 1 - stack[top - 1];
                 } else if (top > 1) {
                     top--;
-                    stack[top - 1] = joined(-next, stack[top - 1], stack[top]);
+                    stack[top - 1] = held(-MOST_NUMBER, MOST_NUMBER, joined(-next, stack[top - 1], stack[top]));
                 }
             }
             return 0;
         }
 
-        private static int joined(int sign, int left, int right) {
+        private static long joined(int sign, long left, long right) {
             switch (sign) {
-                case '+': return held(-MOST_NUMBER, MOST_NUMBER, left + right);
-                case '-': return held(-MOST_NUMBER, MOST_NUMBER, left - right);
-                case '*': return held(-MOST_NUMBER, MOST_NUMBER, (long) left * right);
+                case '+': return left + right;
+                case '-': return left - right;
+                case '*': return left * right;
                 case '/': return right == 0 ? 0 : left / right;
                 case '=': return left == right ? 1 : 0;
                 case '<': return left < right ? 1 : 0;

@@ -117,6 +117,9 @@ public final class ActsTest {
         Check.due("12: 0 at least", x.ledge(), 0);
         Check.due("12: not tired", x.ledge(), Check.NONE);
         Check.due("12: hour 8", x.count(6), 8);
+        FreeAlderman one = Check.city("px1;px2");
+        one.walk(0);
+        Check.due("12: tired by one", one.ledge(), 0);
         Check.due("12: where he is", x.count(8), 0);
         FreeAlderman y = Check.city("sh7;px5;py5");
         y.walk(0);
@@ -361,6 +364,8 @@ public final class ActsTest {
         Check.due("21: as run told", x.count(10), 19);
         Check.due("21: the log, too", x.count(13), 1);
         Check.due("21: seen that day", x.log(0, 1), 15);
+        x.day();
+        Check.due("20: what he sees in them alone", x.run(2, 1), 4);
         FreeAlderman none = new FreeAlderman();
         Check.tell(none, "d", 2);
         Check.due("20: no city", none.run(0, 0), Check.HIDDEN);

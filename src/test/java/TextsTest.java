@@ -41,6 +41,10 @@ public final class TextsTest {
         }
         Check.due("2: nineteen more", x.feed(-1, -1, -1, -1, 0x01010100), 239);
         Check.due("2: two are too many", x.feed(0, 0, 0, 0, 0x0101), Check.NONE);
+        Check.due("2: two in the second", x.feed(0, 0x0101, 0, 0, 0), Check.NONE);
+        Check.due("2: two in the third", x.feed(0, 0, 0x0101, 0, 0), Check.NONE);
+        Check.due("2: two in the fourth", x.feed(0, 0, 0, 0x0101, 0), Check.NONE);
+        Check.due("2: two in two", x.feed(1, 0, 0, 0x01000000, 0), Check.NONE);
         Check.due("2: and change nothing", x.count(3), 239);
         Check.due("2: one fits", x.feed(0, 0, 0, 0, 1), 240);
         Check.due("2: none fits", x.feed(1, 0, 0, 0, 0), Check.NONE);
@@ -269,6 +273,9 @@ public final class TextsTest {
         Check.due("6: breath without", x.rule(0), 30);
         Check.due("6: hours", x.rule(1), 50);
         Check.due("6: consideration without", x.rule(2), 2);
+        Check.due("6: hours without", Check.city("sb7;p;px1").rule(1), 40);
+        Check.due("6: breath", Check.city("sb7;p;px1").rule(0), 7);
+        Check.due("6: consideration", Check.city("sc7;p;px1").rule(2), 7);
         Check.due("6: -1", x.rule(-1), Check.NONE);
         Check.due("6: 3", x.rule(3), Check.NONE);
         int[][] want = {{1, 2, 0, 3, 6, 0, 0}, {0, 9, 3, 7, 8, 0, 0}};

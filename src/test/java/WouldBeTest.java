@@ -32,6 +32,8 @@ public final class WouldBeTest {
         Check.due("22: 0 steps from where he is", x.troubles(0), 7);
         Check.due("22: a step away", x.troubles(1), 11);
         Check.due("22: nothing came of it", Check.spot(x, 1, 5), 0);
+        Check.hold(x, "y:v*3+n");
+        Check.due("22: by what is seen, and how often he was there", x.troubles(0), 10);
     }
 
     private static void sees() {
@@ -124,6 +126,12 @@ public final class WouldBeTest {
         Check.due("24: all", y.least(7, 0), 12);
         FreeAlderman z = Check.city("sb6;px4;py4");
         Check.due("24: there is none", z.least(3, 0), Check.NONE);
+        FreeAlderman hours = Check.city("sh6;px1;px3;px4");
+        Check.due("24: to the last hour", hours.least(3, 0), 1);
+        Check.due("24: an hour more than there is", hours.least(7, 0), Check.NONE);
+        Check.due("24: nor so", hours.least(5, 0), 2);
+        Check.hold(hours, "y:v+h*4");
+        Check.due("24: what is seen and the hour as he comes", hours.least(3, 1), 3 + 4 + 3 + 16);
         Check.due("24: there is none", z.least(3, 1), Check.NONE);
         Check.due("24: too much is no matter", Check.city("po0;px1o0").least(3, 1), 4);
     }
@@ -161,6 +169,11 @@ public final class WouldBeTest {
         }
         y.patience(1, 18);
         Check.due("25: ten would be wanted", y.manners(3), Check.NONE);
+        FreeAlderman hours = Check.city("sc2h8b9;px1;px3;px5o0");
+        Check.due("25: just within hours", hours.manners(7), 2);
+        Check.due("25: beyond hours", Check.city("sc2h7b9;px1;px3;px5o0").manners(7), 0);
+        Check.due("25: beyond breath", Check.city("sc2h8b4;px1;px3;px5o0").manners(7), 0);
+        Check.due("25: one that can't be is passed over", Check.city("sb9;px9y9;px3o1").manners(3), 1);
         y.patience(1, 19);
         Check.due("25: nine are enough", y.manners(3), 9);
     }
@@ -220,6 +233,10 @@ public final class WouldBeTest {
         Check.due("28: of one place two no, one yes: the lowest", x.ask(1, 60), 0);
         Check.due("28: by 4 only the first, by 60 all alike", x.ask(1, 4), 0);
         Check.due("28: by 2 none of them", x.ask(1, 2), 0);
+        // Of two by 5: 0 in 01 and 02, 1 in 10 and 12, 2 in none. By 8: 1 in 01, too, and 2 in 20 and 21.
+        Check.due("28: by 5 the first is as even", x.ask(2, 5), 0);
+        Check.due("28: by 8 the second", x.ask(2, 8), 1);
+        Check.due("28: by 0", Check.city("px1;p").ask(1, 0), 1);
         Check.due("28: t -1", x.ask(1, -1), Check.NONE);
         Check.due("28: t 61", x.ask(1, 61), Check.NONE);
         Check.due("28: k 0", x.ask(0, 1), Check.NONE);
@@ -286,6 +303,10 @@ public final class WouldBeTest {
         Check.due("31: 1 at 1, 0 at 4", tired.meets(10, 2), 0);
         tired.walk(0);
         Check.due("31: not beyond his breath", tired.meets(1, 1), Check.NONE);
+        // 1 at 5, 6; 0 at 10, 11. He: 0 at 2, 1 at 3 + 3.
+        Check.due("31: his last breath and hour", Check.city("sb5h7;px2k1;px5").meets(1, 2), 1);
+        Check.due("31: breath over the whole row", Check.city("sb4h7;px2k1;px5").meets(1, 2), Check.NONE);
+        Check.due("31: hours over the whole row", Check.city("sb5h6;px2k1;px5").meets(1, 2), Check.NONE);
         Check.due("31: n 0", x.meets(0, 0), Check.NONE);
         Check.due("31: n 8", x.meets(0, 8), Check.NONE);
         Check.due("31: twice", x.meets(11, 2), Check.NONE);
