@@ -1579,13 +1579,13 @@ public final class FreeAlderman {
 
         private void seeOn(int from, int hour, int tired, int used, int row, int gain) {
             int length = Integer.bitCount(used);
-            if (gain > bestGain || gain == bestGain && length < bestLength) {
+            if (isBetter(gain, length)) {
                 bestRow = row;
                 bestLength = length;
                 bestGain = gain;
                 bestHour = hour;
             }
-            if (!canBeBetter(length + 1, gain + unseen(used))) {
+            if (!isBetter(gain + leftToSee(used), length + leftPlaces(used))) {
                 return;
             }
             for (int place = 0; place < city.places; place++) {
@@ -1599,22 +1599,29 @@ public final class FreeAlderman {
             }
         }
 
-        private boolean canBeBetter(int length, int mostGain) {
-            return mostGain > bestGain || mostGain == bestGain && length < bestLength;
+        private boolean isBetter(int gain, int length) {
+            return gain > bestGain || gain == bestGain && length < bestLength;
         }
 
         private int newAt(int place) {
             return stand.visitsOf(place) == 0 ? city.toldOf(place, SPOT_SEEN) : 0;
         }
 
-        private int unseen(int used) {
+        private int leftToSee(int used) {
             int sum = 0;
             for (int place = 0; place < city.places; place++) {
-                if (!isIn(used, place)) {
-                    sum += newAt(place);
-                }
+                sum += isIn(used, place) ? 0 : newAt(place);
             }
             return sum;
+        }
+
+        // To see all that is left takes at least so many PLACES more: if a row as good is as short, it is in vain.
+        private int leftPlaces(int used) {
+            int some = 0;
+            for (int place = 0; place < city.places; place++) {
+                some += isIn(used, place) || newAt(place) == 0 ? 0 : 1;
+            }
+            return some;
         }
 
         // TROUBLES never get less within a row, so what is too much on the way is so at its end.
