@@ -799,13 +799,16 @@ public final class FreeAlderman {
         }
 
         private boolean readClause() {
-            if (!rulesTold && tape.take('s')) {
+            int sign = tape.sign();
+            if (sign == 's' && !rulesTold) {
                 rulesTold = true;
+                tape.at++;
                 return readItems(RULE_LETTERS, RULE_LOW, RULE_HIGH, draft.rules);
             }
-            if (draft.places < MOST_PLACES && tape.take('p')) {
+            if (sign == 'p' && draft.places < MOST_PLACES) {
                 int[] spot = draft.spots[draft.places];
                 draft.places++;
+                tape.at++;
                 System.arraycopy(SPOT_WITHOUT, 0, spot, 0, SPOT_WITHOUT.length);
                 return readItems(SPOT_LETTERS, SPOT_LOW, SPOT_HIGH, spot);
             }

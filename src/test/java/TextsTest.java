@@ -84,6 +84,10 @@ public final class TextsTest {
         Check.fault("p;px1;s;px2;px3;px4;px5;px6;p", 0, 28);
         Check.fault("p;px1;s;px2;px3;px4;px5;px6;s", 0, 28);
         Check.fault("p;px1;s;px2;px3;px4;px5;px6;", 0, 28);
+        Check.fault("p;px1;s;px2;px3;px4;px5;px6;  p", 0, 30);
+        Check.fault("p;px1;px2;px3;px4;px5;px6; px7", 0, 27);
+        Check.fault("p;s; s;px1", 0, 5);
+        Check.fault("p; px1 x1", 0, 7);
         Check.fault("px", 0, 2);
         Check.fault("px;p", 0, 2);
         Check.fault("pxx1", 0, 2);
@@ -146,6 +150,8 @@ public final class TextsTest {
         Check.fault("r;;r", 2, 2);
         Check.fault("r;x", 2, 2);
         Check.fault(sixteen + ";", 2, 31);
+        Check.fault("w  x", 2, 3);
+        Check.fault("r;  x", 2, 4);
         Check.fault(sixteen + " ;d", 2, 32);
         Check.fault(sixteen + "d", 2, 31);
         Check.fault(sixteen.substring(0, 30) + ";d", 2, 30);
@@ -204,6 +210,9 @@ public final class TextsTest {
         Check.fault("y:k=1|1?1", 1, 7);
         Check.fault("y:1+!k=1?1", 1, 4);
         Check.fault("y:[[[[[[[1]]]]]]]", 1, 8);
+        Check.fault("y:[[[[[[  [1]]]]]]]", 1, 10);
+        Check.fault("y:!!!!!!  !k=1?1", 1, 10);
+        Check.fault("y:k=1 ?  =", 1, 9);
         Check.fault("y:!!!!!!!k=1?1", 1, 8);
         Check.fault("y:(((((((k=1)))))))?1", 1, 8);
         Check.fault("y:!(!(!([1]=1)))?1", 1, 8);
