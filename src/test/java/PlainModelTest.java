@@ -107,9 +107,15 @@ public final class PlainModelTest {
 
     private String go(int calls) throws Exception {
         String wrong = upTo(9) == 0 ? null : tell(0);
-        while (wrong == null && story.size() < calls - 14) {
+        // Some runs are of texts alone, some of ACTS that go far into the years.
+        int mode = upTo(4);
+        while (wrong == null && story.size() < calls - 17) {
             int sort = upTo(99);
-            if (sort < 4) {
+            if (mode == 0) {
+                wrong = tell(upTo(2));
+            } else if (mode == 1 && sort < 95) {
+                wrong = act();
+            } else if (sort < 4) {
                 wrong = tell(upTo(19) == 0 ? 0 : between(1, 2));
             } else if (sort < 5) {
                 wrong = tape();
@@ -121,6 +127,21 @@ public final class PlainModelTest {
             wrong = call("count", what);
         }
         return wrong;
+    }
+
+    private String act() throws Exception {
+        switch (upTo(15)) {
+            case 0: return call("gout", between(5, 9));
+            case 1: case 2: case 3: return call("years", about(20, 60), random.nextLong());
+            case 4: case 5: return call("walk", aPlace());
+            case 6: return call("day");
+            case 7: case 8: return call("undo");
+            case 9: return call("perform", upTo(3));
+            case 10: return upTo(3) != 0 ? null : call("image");
+            case 11: return upTo(9) != 0 ? null : call("back");
+            case 12: return call("count", between(5, 14));
+            default: return call("log", about(0, 60), upTo(2));
+        }
     }
 
     private String tape() throws Exception {
