@@ -37,14 +37,21 @@ final class Check {
 
     static void tape(FreeAlderman x, String text) {
         x.end(0);
+        tapeOn(x, text);
+    }
+
+    /** Feeds a text behind what the tape has: what the last feed answers. */
+    static int tapeOn(FreeAlderman x, String text) {
+        int answer = x.count(3);
         byte[] bytes = text.getBytes(StandardCharsets.ISO_8859_1);
         for (int i = 0; i < bytes.length; i += 20) {
             int[] five = new int[5];
             for (int j = 0; j < 20 && i + j < bytes.length; j++) {
                 five[j / 4] |= (bytes[i + j] & 255) << (24 - j % 4 * 8);
             }
-            x.feed(five[0], five[1], five[2], five[3], five[4]);
+            answer = x.feed(five[0], five[1], five[2], five[3], five[4]);
         }
+        return answer;
     }
 
     static int tell(FreeAlderman x, String text, int sort) {
