@@ -12,6 +12,8 @@ public final class AskEdgesTest {
         seesToTheLast();
         seesWithinPatience();
         seesOfSeveral();
+        seesByLaw();
+        seesTimeAndAgain();
         leastOfSets();
         leastToTheLast();
         mannersUpToNine();
@@ -176,6 +178,40 @@ public final class AskEdgesTest {
         Check.due("23: a place that was seen today is not gone to", x.sees(0), 12);
         x.walk(1);
         Check.due("23: and but one is left", x.sees(0), 2);
+    }
+
+    // TROUBLE on the way is by the HOUR as he comes, how TIRED he is then, and what is SEEN there as it is.
+    private static void seesByLaw() {
+        String[] laws = {"t", "h", "v+2", "o", "k+5", "n+5"};
+        for (String law : laws) {
+            // Place 0 by 2 steps, place 1 by 3 more: tired 2 and 5, hours 2 and 6 (the other way 5 and 9); 5 by v, o, k and n.
+            FreeAlderman x = Check.city("px2o8;px5o5");
+            Check.hold(x, "y:" + law);
+            Check.due("23: by " + law, x.sees(1), law.equals("h") ? 3 : 6);
+            x.patience(1, 6);
+            Check.due("23: with patience 6 by " + law, x.sees(1), 6);
+            x.patience(1, 4);
+            boolean alone = law.equals("o");
+            Check.due("23: with patience 4 by " + law, x.sees(1), alone ? 6 : 3);
+        }
+    }
+
+    // Each answer is of now, whatever was asked ahead.
+    private static void seesTimeAndAgain() {
+        FreeAlderman x = Check.city("px1;px2");
+        Check.due("23: both", x.sees(0), 1);
+        x.walk(0);
+        Check.due("23: one", x.sees(0), 1);
+        Check.due("23: one", x.sees(1), 3);
+        x.walk(1);
+        Check.due("23: none", x.sees(0), NONE);
+        Check.due("23: none", x.sees(1), 0);
+        Check.due("23: none", x.sees(2), 4);
+        x.day();
+        Check.due("23: both", x.sees(2), 4);
+        Check.due("24: both", x.least(3, 0), 1);
+        Check.due("24: one", x.least(2, 1), 2);
+        Check.due("23: both", x.sees(1), 6);
     }
 
     // "LEAST for a set of PLACES (bits, at least one): rows of just these, each once"; "no such set, no such what"
@@ -568,6 +604,12 @@ public final class AskEdgesTest {
         FreeAlderman x = Check.city("sb9;px9;px8");
         for (int far : FAR) {
             Check.due("34: chance " + far, x.odds(0, 1, far), NONE);
+        }
+        // Two ways that take all his breath, or one more than that: rain does not change it.
+        for (int chance = 0; chance <= 100; chance += 50) {
+            Check.due("34: to the last breath", Check.city("sb4h60;px2;px4").odds(1, 2, chance), 1000000000);
+            Check.due("34: beyond his breath", Check.city("sb3h60;px2;px4").odds(1, 2, chance), 0);
+            Check.due("34: there and back", Check.city("sb5h60;px4;px2").odds(1, 2, chance), 0);
         }
         // Seven rains and just the hours for them, and one hour less.
         Check.due("34: seven rains", Check.city("sb60h20;" + SEVEN).odds(123456, 7, 100), 1000000000);

@@ -19,6 +19,8 @@ public final class TextEdgesTest {
         numbersOfLaws();
         nestingOfLaws();
         conditionsOfLaws();
+        truths();
+        looksLeaveNothing();
         blanks();
         fourAtMost();
         anotherCity();
@@ -464,6 +466,67 @@ public final class TextEdgesTest {
         Check.due("22: 0 without", trouble("y:1=0?3"), 0);
         Check.due("22: 0 without", trouble("y:1=0?3;y:0=1?4"), 0);
         Check.due("22: letters", trouble("y:k=2&v=7&o=20&h=3&n=0&t=3?1"), 1);
+    }
+
+    // "CONDITION: TRUTHS with | between; TRUTH: UNITS with & between; UNIT: ! UNIT, ( CONDITION ), or SUM, one of = < >, SUM."
+    private static void truths() {
+        String[] units = {"1=1", "1<2", "2>1", "1=2", "2<1", "1<1", "1>2", "1>1"};
+        boolean[] so = {true, true, true, false, false, false, false, false};
+        for (int a = 0; a < units.length; a++) {
+            truth(units[a], so[a]);
+            truth("!" + units[a], !so[a]);
+            truth("!!" + units[a], so[a]);
+            for (int b = 0; b < units.length; b++) {
+                truth(units[a] + "&" + units[b], so[a] && so[b]);
+                truth(units[a] + "|" + units[b], so[a] || so[b]);
+                truth("!" + units[a] + "&" + units[b], !so[a] && so[b]);
+                truth("!(" + units[a] + "|" + units[b] + ")", !(so[a] || so[b]));
+            }
+        }
+        for (int bits = 0; bits < 8; bits++) {
+            boolean a = (bits & 1) != 0;
+            boolean b = (bits & 2) != 0;
+            boolean c = (bits & 4) != 0;
+            String[] u = {a ? "1<2" : "2<1", b ? "k=2" : "k=1", c ? "v>o-14" : "v>o-13"};
+            truth(u[0] + "&" + u[1] + "|" + u[2], a && b || c);
+            truth(u[0] + "|" + u[1] + "&" + u[2], a || b && c);
+            truth("(" + u[0] + "|" + u[1] + ")&" + u[2], (a || b) && c);
+            truth(u[0] + "&(" + u[1] + "|!" + u[2] + ")", a && (b || !c));
+            truth("!(" + u[0] + "&" + u[1] + "&" + u[2] + ")", !(a && b && c));
+        }
+    }
+
+    private static void truth(String condition, boolean so) {
+        Check.due("22: " + condition, trouble("y:" + condition + "?7;y:8"), so ? 7 : 8);
+    }
+
+    // A tape that is only looked at, good or not, leaves nothing in what is told behind it.
+    private static void looksLeaveNothing() {
+        FreeAlderman x = Check.city("p;px1");
+        for (String looked : new String[] {"y:9", "y:9;y:8", "y:9;", "y:9+9*9+9/", "y:1=1?9"}) {
+            Check.tape(x, looked);
+            x.fault(1);
+        }
+        Check.hold(x, "y:3");
+        Check.due("22: the law that was told", x.troubles(0), 3);
+        Check.tape(x, "y:9");
+        x.fault(1);
+        Check.due("22: still", x.troubles(0), 3);
+        Check.tape(x, "d;d;d;d");
+        x.fault(2);
+        Check.due("5: days", Check.tell(x, "w1;r", 2), 0);
+        Check.due("19: of two steps", x.step(0, 2, 0), Check.HIDDEN);
+        Check.tape(x, "d;d;d");
+        x.fault(2);
+        Check.due("19: still", x.step(0, 0, 0), 0);
+        Check.tape(x, "sb1h1c1;px5k1v1o1;py5;px7");
+        x.fault(0);
+        Check.due("6: the city is as it was", x.rule(0) * 100 + x.rule(1), 3040);
+        Check.due("41: the city is as it was", x.count(0), 2);
+        Check.due("10: the city is as it was", x.steps(0, 1), 1);
+        Check.due("5: another one", Check.tell(x, "p;px2", 0), 2);
+        Check.due("6: without what was looked at", x.rule(0) * 100 + x.rule(1), 3040);
+        Check.due("7: without what was looked at", Check.spot(x, 0, 2) + Check.spot(x, 0, 3), 3);
     }
 
     // "Blanks (32) may stand between all signs of these, not within numbers."
