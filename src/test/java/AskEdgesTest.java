@@ -173,6 +173,10 @@ public final class AskEdgesTest {
         Check.due("23: the fewer of as much", Check.city("sb9h20;px1v2;px2v3;py9v5").sees(0), 2);
         Check.due("23: the least row of as many", Check.city("px2;px1").sees(0), 1);
         Check.due("23: of rows of three", Check.city("px3;px2;px1").sees(0), 12);
+        // A longer row that goes by a place with nothing to be seen comes first (012): the fewer is still found behind it.
+        Check.due("23: the fewer behind a longer one", Check.city("pv0;px1;py1;px2v0").sees(0), 12);
+        Check.due("23: the fewer, and its hour", Check.city("pv0;px1;py1;px2v0").sees(2), 5);
+        Check.due("23: the fewer of all seven", Check.city("pv0;px1v0;px2v0;px3;px4;px5v0;px6v0").sees(0), 34);
         FreeAlderman x = Check.city("px3;px2;px1");
         x.walk(0);
         Check.due("23: a place that was seen today is not gone to", x.sees(0), 12);
